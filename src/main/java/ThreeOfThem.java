@@ -509,7 +509,10 @@ public final class ThreeOfThem {
     /** The judge, who thinks of a copy of the house: nothing that comes of it is true. */
     private Judge thinking() {
         judge.house.become(house);
-        judge.rule = texts[house.rule];
+        Text rule = texts[house.rule];
+        if (rule != null) {
+            judge.rule = rule;
+        }
         return judge;
     }
 
@@ -735,7 +738,8 @@ public final class ThreeOfThem {
                     stack[top] = step >= 0 ? step : facts[-1 - step];
                     top++;
                 } else if ((step == NOT || step == NEGATE) && top >= 1) {
-                    stack[top - 1] = step == NOT ? truth(stack[top - 1] == 0) : -stack[top - 1];
+                    int a = stack[top - 1];
+                    stack[top - 1] = step == NEGATE ? -a : a == 0 ? 1 : 0;
                 } else if (top >= 2) {
                     top--;
                     stack[top - 1] = join(step, stack[top - 1], stack[top]);
@@ -747,13 +751,13 @@ public final class ThreeOfThem {
         private static int join(int step, int a, int b) {
             switch (step) {
                 case OR:
-                    return truth(a != 0 || b != 0);
+                    return a != 0 || b != 0 ? 1 : 0;
                 case AND:
-                    return truth(a != 0 && b != 0);
+                    return a != 0 && b != 0 ? 1 : 0;
                 case LESS:
-                    return truth(a < b);
+                    return a < b ? 1 : 0;
                 case SAME:
-                    return truth(a == b);
+                    return a == b ? 1 : 0;
                 case PLUS:
                     return a + b;
                 case MINUS:
@@ -761,10 +765,6 @@ public final class ThreeOfThem {
                 default:
                     return a * b;
             }
-        }
-
-        private static int truth(boolean is) {
-            return is ? 1 : 0;
         }
     }
 
@@ -1012,7 +1012,7 @@ public final class ThreeOfThem {
     /** Who tells, of a house in thought, what company is worth and who would join against whom. */
     private static final class Judge {
         final House house = new House();
-        Text rule;
+        Text rule = new Text(new int[0], 0, 0);
         private final int[] facts = new int[NAMES];
         private final int[] stack = new int[MOST_TAPE];
         private int looked;
@@ -1027,23 +1027,21 @@ public final class ThreeOfThem {
         final int[] oathsFound = new int[3];
         final int[] followed = new int[3];
 
-        private int valueOf(int part, int one, int other, int n) {
-            if (rule == null) {
-                return 0;
-            }
+        /** What the names of a text stand for. */
+        private int[] factsOf(int one, int other, int n) {
             facts[-1 - LIKE] = house.likes[one * MOST_INMATES + other];
             facts[-1 - MANY] = n;
             facts[-1 - SHARE] = house.share(n);
             facts[-1 - DAYS] = house.day;
             facts[-1 - ONE] = one;
             facts[-1 - OTHER] = other;
-            return rule.value(part, facts, stack);
+            return facts;
         }
 
         /** What it is worth to the one, of n, that the other one is of them. */
         private int worthOf(int one, int other, int n) {
-            int company = clamp(valueOf(COMPANY, one, other, n), -MOST_COMPANY, MOST_COMPANY);
-            return company + house.bringsOf(other, n);
+            int company = rule.value(COMPANY, factsOf(one, other, n), stack);
+            return clamp(company, -MOST_COMPANY, MOST_COMPANY) + house.bringsOf(other, n);
         }
 
         /** Good of one in a set, as if there were n of it. */
@@ -1063,36 +1061,33 @@ public final class ThreeOfThem {
             if (gain < price) {
                 return false;
             }
-            if (breaks && gain < price + clamp(valueOf(OATH, one, other, n), 0, MOST_OATH)) {
+            factsOf(one, other, n);
+            if (breaks && gain < price + clamp(rule.value(OATH, facts, stack), 0, MOST_OATH)) {
                 return false;
             }
-            return valueOf(JOINS, one, other, n) != 0;
+            return rule.value(JOINS, facts, stack) != 0;
         }
 
+        /** Finds of each pair of a set whether the one would join against the other one. */
         void lookAt(int set) {
             looked = set;
+            Arrays.fill(freeAgainst, 0);
+            Arrays.fill(swornAgainst, 0);
             int n = Integer.bitCount(set);
-            for (int i = 0; i < MOST_INMATES; i++) {
-                freeAgainst[i] = 0;
-                swornAgainst[i] = 0;
-            }
             for (int one = 0; one < MOST_INMATES; one++) {
-                if (has(set, one)) {
-                    lookAs(one, set, n);
+                if (!has(set, one)) {
+                    continue;
                 }
-            }
-        }
-
-        private void lookAs(int one, int set, int n) {
-            int before = goodOf(one, set, n);
-            // What company is worth hangs on how many there are, not on who: so the good without
-            // an other one is that of all of them, told as if there were one less, less its part.
-            int allWithOneLess = goodOf(one, set, n - 1);
-            for (int other = 0; other < MOST_INMATES; other++) {
-                if (has(set, other) && other != one) {
-                    int gain = allWithOneLess - worthOf(one, other, n - 1) - before;
-                    freeAgainst[other] |= moves(gain, one, other, n, false) ? bit(one) : 0;
-                    swornAgainst[other] |= moves(gain, one, other, n, true) ? bit(one) : 0;
+                // What company is worth hangs on how many there are, not on who: so the good
+                // without an other one is that of all, as if there were one less, less its part.
+                int before = goodOf(one, set, n);
+                int allAsOneLess = goodOf(one, set, n - 1);
+                for (int other = 0; other < MOST_INMATES; other++) {
+                    if (has(set, other) && other != one) {
+                        int gain = allAsOneLess - worthOf(one, other, n - 1) - before;
+                        freeAgainst[other] |= moves(gain, one, other, n, false) ? bit(one) : 0;
+                        swornAgainst[other] |= moves(gain, one, other, n, true) ? bit(one) : 0;
+                    }
                 }
             }
         }
@@ -1337,7 +1332,7 @@ public final class ThreeOfThem {
                     house.leave(goes);
                 }
                 house.passDay();
-                stale |= goes != NONE || rule == null || rule.tellsDays;
+                stale |= goes != NONE || rule.tellsDays;
             }
             return house.in;
         }
