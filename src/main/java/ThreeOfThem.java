@@ -27,6 +27,8 @@ public final class ThreeOfThem {
     private static final int RENT_STEP = 10;
     private static final int MOST_DRAWN_DAYS = 30;
     private static final int MOST_SEEDS = 10;
+    /** So many sets of 3, or of 4, has a house of 7. */
+    private static final int MOST_MEETINGS = 35;
     private static final int MOST_WENT = MOST_INMATES - LEAST_NEEDED;
 
     private static final int INMATE = 0, COOK = 1, SHY = 2, BAKER = 3, PROUD = 4, SNORER = 5;
@@ -334,7 +336,8 @@ public final class ThreeOfThem {
         if (what < 0 || what > 1) {
             return BAD;
         }
-        return what == 0 ? thinkingOfHouse().leastNeeded() : thinking().leastRent();
+        thinkingOfHouse();
+        return what == 0 ? judge.leastNeeded() : judge.leastRent();
     }
 
     // ---- who the three were
@@ -626,6 +629,10 @@ public final class ThreeOfThem {
         int day;
         int rule;
 
+        House() {
+            Arrays.fill(likes, FIRST_LIKE);
+        }
+
         void become(House h) {
             System.arraycopy(h.kinds, 0, kinds, 0, MOST_INMATES);
             System.arraycopy(h.numbers, 0, numbers, 0, MOST_INMATES);
@@ -639,18 +646,16 @@ public final class ThreeOfThem {
             rule = h.rule;
         }
 
-        /** The place may have been another one's, who went with an image: so all begins anew. */
+        /**
+         * The likes and oaths of one to come are as at first: those of inmates alone change, and
+         * become(), by which inmates go, lays back all of them.
+         */
         int welcome(int kind, int number) {
             int one = inmates;
             inmates++;
             kinds[one] = kind;
             numbers[one] = number;
             in |= bit(one);
-            for (int other = 0; other < MOST_INMATES; other++) {
-                changeLike(one, other, FIRST_LIKE);
-                changeLike(other, one, FIRST_LIKE);
-                bind(one, other, false);
-            }
             return one;
         }
 
@@ -715,17 +720,21 @@ public final class ThreeOfThem {
         final int[] code;
         final int oathFrom;
         final int joinsFrom;
-        final boolean tellsDays;
 
         Text(int[] code, int oathFrom, int joinsFrom) {
             this.code = code;
             this.oathFrom = oathFrom;
             this.joinsFrom = joinsFrom;
-            boolean found = false;
+        }
+
+        /** Whether a name stands in it: else it tells the same, whatever the name stands for. */
+        boolean names(int name) {
             for (int step : code) {
-                found |= step == DAYS;
+                if (step == name) {
+                    return true;
+                }
             }
-            tellsDays = found;
+            return false;
         }
 
         int value(int part, int[] facts, int[] stack) {
@@ -772,8 +781,8 @@ public final class ThreeOfThem {
     private static final class Reader {
         final int[] bytes = new int[MOST_TAPE];
         int size;
-        private final int[] tokens = new int[MOST_TAPE + 1];
-        private final int[] places = new int[MOST_TAPE + 1];
+        private final int[] tokens = new int[MOST_TAPE];
+        private final int[] places = new int[MOST_TAPE];
         private int tokenCount;
         private int at;
         private final int[] code = new int[MOST_TAPE];
@@ -1016,6 +1025,8 @@ public final class ThreeOfThem {
         private final int[] facts = new int[NAMES];
         private final int[] stack = new int[MOST_TAPE];
         private int looked;
+        /** Of each pair of it, what the one has more without the other one, but for the share. */
+        private final int[] gains = new int[MOST_INMATES * MOST_INMATES];
         /** Of each other one of the set that is looked at, who would join against it, unsworn. */
         private final int[] freeAgainst = new int[MOST_INMATES];
         /** The same of those who would break an oath by it. */
@@ -1023,6 +1034,8 @@ public final class ThreeOfThem {
         private final int[] goods = new int[ALL_SETS * MOST_INMATES];
         final int[] left = new int[ALL_SETS];
         final int[] goesFirst = new int[ALL_SETS];
+        private final int[] meetings = new int[MOST_MEETINGS];
+        private int meetingCount;
         final int[] went = new int[MOST_INMATES];
         final int[] oathsFound = new int[3];
         final int[] followed = new int[3];
@@ -1044,7 +1057,7 @@ public final class ThreeOfThem {
             return clamp(company, -MOST_COMPANY, MOST_COMPANY) + house.bringsOf(other, n);
         }
 
-        /** Good of one in a set, as if there were n of it. */
+        /** Good of one in a set of n. */
         int goodOf(int one, int set, int n) {
             int good = house.share(n);
             for (int other = 0; other < MOST_INMATES; other++) {
@@ -1071,25 +1084,49 @@ public final class ThreeOfThem {
         /** Finds of each pair of a set whether the one would join against the other one. */
         void lookAt(int set) {
             looked = set;
+            compare();
+            weigh();
+        }
+
+        /**
+         * What company is worth hangs on how many there are, not on who: so the good without an
+         * other one is that of all, told as if there were one less, less that one's part.
+         */
+        private void compare() {
+            int n = Integer.bitCount(looked);
+            for (int one = 0; one < MOST_INMATES; one++) {
+                int more = 0;
+                for (int other = 0; other < MOST_INMATES; other++) {
+                    if (isLookedPair(one, other)) {
+                        int then = worthOf(one, other, n - 1);
+                        more += then - worthOf(one, other, n);
+                        gains[one * MOST_INMATES + other] = -then;
+                    }
+                }
+                for (int other = 0; other < MOST_INMATES; other++) {
+                    gains[one * MOST_INMATES + other] += more;
+                }
+            }
+        }
+
+        private void weigh() {
             Arrays.fill(freeAgainst, 0);
             Arrays.fill(swornAgainst, 0);
-            int n = Integer.bitCount(set);
+            int n = Integer.bitCount(looked);
+            int moreShare = house.share(n - 1) - house.share(n);
             for (int one = 0; one < MOST_INMATES; one++) {
-                if (!has(set, one)) {
-                    continue;
-                }
-                // What company is worth hangs on how many there are, not on who: so the good
-                // without an other one is that of all, as if there were one less, less its part.
-                int before = goodOf(one, set, n);
-                int allAsOneLess = goodOf(one, set, n - 1);
                 for (int other = 0; other < MOST_INMATES; other++) {
-                    if (has(set, other) && other != one) {
-                        int gain = allAsOneLess - worthOf(one, other, n - 1) - before;
+                    if (isLookedPair(one, other)) {
+                        int gain = gains[one * MOST_INMATES + other] + moreShare;
                         freeAgainst[other] |= moves(gain, one, other, n, false) ? bit(one) : 0;
                         swornAgainst[other] |= moves(gain, one, other, n, true) ? bit(one) : 0;
                     }
                 }
             }
+        }
+
+        private boolean isLookedPair(int one, int other) {
+            return one != other && has(looked, one) && has(looked, other);
         }
 
         /** Who would join against the other one, if it were sworn with these. */
@@ -1208,7 +1245,7 @@ public final class ThreeOfThem {
         int savingOath(int one) {
             int friends = house.oaths[one];
             for (int other = 0; other < MOST_INMATES; other++) {
-                if (has(looked, other) && other != one && !has(friends, other)
+                if (isLookedPair(one, other) && !has(friends, other)
                     && Integer.bitCount(against(one, friends | bit(other))) < house.needed) {
                     return other;
                 }
@@ -1263,8 +1300,7 @@ public final class ThreeOfThem {
         private boolean isFreePair(int pair) {
             int one = pair / MOST_INMATES;
             int other = pair % MOST_INMATES;
-            return one < other && has(looked, one) && has(looked, other)
-                && !has(house.oaths[one], other);
+            return one < other && isLookedPair(one, other) && !has(house.oaths[one], other);
         }
 
         private void bindPair(int pair, boolean is) {
@@ -1286,9 +1322,13 @@ public final class ThreeOfThem {
         }
 
         int leastRent() {
+            boolean hangsOnShare = rule.names(SHARE);
             for (int rent = 0; rent < TRIED_RENTS; rent += RENT_STEP) {
                 house.rent = rent;
-                lookAt(house.in);
+                if (hangsOnShare) {
+                    compare();
+                }
+                weigh();
                 if (!atRest()) {
                     return rent;
                 }
@@ -1316,41 +1356,37 @@ public final class ThreeOfThem {
             return row.size > 0;
         }
 
-        /** Who is in behind so many drawn days. */
+        /** Who is in behind so many drawn days; once too few are left to meet, no one goes. */
         int draw(int seed, int days) {
+            boolean hangsOnDays = rule.names(DAYS);
             int z = seed;
-            boolean stale = true;
-            for (int i = 0; i < days; i++) {
+            listMeetings();
+            lookAt(house.in);
+            for (int i = 0; i < days && meetingCount > 0; i++) {
                 z = z * 1103515245 + 12345;
-                int meeting = meetingAt(z >>> 9);
-                if (meeting != 0 && stale) {
-                    lookAt(house.in);
-                    stale = false;
-                }
-                int goes = loserOf(meeting);
+                int goes = loserOf(meetings[(z >>> 9) % meetingCount]);
+                house.passDay();
                 if (goes != NONE) {
                     house.leave(goes);
+                    listMeetings();
                 }
-                house.passDay();
-                stale |= goes != NONE || rule.tellsDays;
+                if (goes != NONE || hangsOnDays) {
+                    lookAt(house.in);
+                }
             }
             return house.in;
         }
 
-        /** Of all sets of one more than are needed, by bits, the one that is drawn; 0: none. */
-        private int meetingAt(int drawn) {
-            int size = house.needed + 1;
-            int sets = choose(Integer.bitCount(house.in), size);
-            int skip = sets > 0 ? drawn % sets : 0;
+        /** All sets of one more than are needed, of those who are in, by bits. */
+        private void listMeetings() {
+            meetingCount = 0;
             for (int set = 0; set < ALL_SETS; set++) {
-                if ((set & ~house.in) == 0 && Integer.bitCount(set) == size) {
-                    if (skip == 0) {
-                        return set;
-                    }
-                    skip--;
+                if ((set & ~house.in) == 0 && Integer.bitCount(set) == house.needed + 1
+                    && meetingCount < MOST_MEETINGS) {
+                    meetings[meetingCount] = set;
+                    meetingCount++;
                 }
             }
-            return 0;
         }
 
         /** Whom the first band of a meeting turns out: the lesser its bits, the higher that one. */

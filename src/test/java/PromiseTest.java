@@ -296,6 +296,27 @@ public final class PromiseTest {
         fault("company 1 x 99999", 10);
         fault("company 1 / 2", 10);
         fault("company\t1", 7);
+        fault("company pike;", 8);
+        fault("company likez;", 8);
+        fault("company zlike;", 8);
+        fault("company alike;", 8);
+        fault("company `;", 8);
+        fault("company {;", 8);
+        fault("company /;", 8);
+        fault("company :;", 8);
+        fault("company 09;oath 90;joins 0;", -1);
+        fault(";".repeat(160), 0);
+        fault("company 1" + "+1".repeat(75) + ";", 160);
+        fault("company 1" + "+1".repeat(75) + "2", 160);
+        fault("company 1" + "+1".repeat(73) + "+like", 160);
+        fault("company" + " ".repeat(152) + "1", 160);
+        fault("company " + "(".repeat(152), 13);
+        fault("company 1" + "+1".repeat(66) + ";oath 1;joins 1;   ", -1);
+        ThreeOfThem x = new ThreeOfThem();
+        due("a longer one", read(x, "company likelike"), -108);
+        due("nothing of it stays", read(x, "company like"), -112);
+        due("a longer one", read(x, "company 11111"), -108);
+        due("nothing of it stays", read(x, "company 1111"), -112);
     }
 
     private static void textDepth() {
@@ -635,6 +656,18 @@ public final class PromiseTest {
         due("what", x.oaths(3), BAD);
         due("what", x.oaths(-1), BAD);
         due("in thought", x.count(2), 2);
+        ThreeOfThem z = plain(4);
+        z.set(1, 0, 2);
+        rule(z, "company 0; oath 99; joins other=0;");
+        due("two of the same one", z.oaths(0), 2);
+        due("first", z.oaths(1), 1);
+        due("second", z.oaths(2), 2);
+        z.swear(0, 1, 1);
+        due("one more", z.oaths(1), 2);
+        z.swear(0, 1, 0);
+        z.set(4, 1, 0);
+        due("of those in", z.oaths(1), 2);
+        due("one is enough", z.oaths(0), 1);
         ThreeOfThem y = plain(6);
         y.set(0, 0, 400);
         due("not by two", y.oaths(0), NONE);
@@ -898,6 +931,9 @@ public final class PromiseTest {
         row(y, 0, 0, 1, 0, 9);
         y.sheet(0, 0, 3);
         due("all 0", y.likes(0, 0, 0, 1), 0);
+        y.cell(0, 1, 1);
+        due("0, 1, 0", y.likes(0, 0, 0, 1), 1);
+        due("became 0", y.like(0, 1, 5), 0);
         row(y, 0, 0, 1, 1);
         y.sheet(0, 0, 1);
         due("all 0", y.who(0, 2), 0);
