@@ -718,6 +718,9 @@ public final class PromiseTest {
         due("the last rent", y.holds(1), 990);
         rule(y, "company 0; oath 0; joins share=250;");
         due("not one more", y.holds(1), NONE);
+        // By a rent of 10 each of four has 2, and 2 by each of three: 8; of three, 3 and 6: 9.
+        rule(y, "company share; oath share; joins share;");
+        due("company that hangs on the rent", y.holds(1), 10);
     }
 
     private static void who() {
@@ -797,6 +800,10 @@ public final class PromiseTest {
         x.set(2, 0, 999);
         rule(x, "company 0; oath 0; joins days=999;");
         due("999 at most", Integer.bitCount(x.drawn(1, 2)), 3);
+        x.set(2, 0, 0);
+        rule(x, "company days; oath days; joins days;");
+        due("not on day 0", x.drawn(1, 1), 31);
+        due("on day 1", Integer.bitCount(x.drawn(1, 2)), 4);
     }
 
     private static void chance() {
