@@ -1,14 +1,5 @@
 /** Each promise by itself: ordinary inputs, the edges that the document names, wrong inputs. */
-public final class PromiseTest {
-    private static final int NONE = -1, BAD = -2, STATE = -3, FULL = -4;
-    private static final int MISSING = -11, OUTSIDE = -12, UNLIKE = -13, NEGATIVE = -14;
-    private static final int UNTOLD = -100000;
-    private static final long NO = -4611686018427387904L;
-    private static final int MIN = Integer.MIN_VALUE, MAX = Integer.MAX_VALUE;
-
-    private static int wrong = 0;
-    private static int checks = 0;
-
+public final class PromiseTest extends Checks {
     public static void main(String[] args) {
         newObject();
         inmate();
@@ -42,46 +33,7 @@ public final class PromiseTest {
         copy();
         likes();
         taken();
-        System.out.println(checks + " answers, " + wrong + " not as due");
-        if (wrong != 0) {
-            System.exit(1);
-        }
-    }
-
-    private static void due(String call, long got, long want) {
-        checks++;
-        if (got != want) {
-            wrong++;
-            System.out.println(call + " answered " + got + ", due is " + want);
-        }
-    }
-
-    private static ThreeOfThem plain(int people) {
-        ThreeOfThem x = new ThreeOfThem();
-        for (int i = 0; i < people; i++) {
-            x.inmate(0, 0);
-        }
-        return x;
-    }
-
-    private static int read(ThreeOfThem x, String text) {
-        for (int i = 0; i < text.length(); i++) {
-            x.feed(text.charAt(i));
-        }
-        return x.text();
-    }
-
-    private static void rule(ThreeOfThem x, String text) {
-        int t = read(x, text);
-        due("text() of " + text + " is one", t > 0 ? 1 : t, 1);
-        x.force(t);
-    }
-
-    private static void row(ThreeOfThem x, int sheet, int sort, int... all) {
-        x.sheet(sheet, sort, all.length);
-        for (int i = 0; i < all.length; i++) {
-            x.cell(sheet, i, all[i]);
-        }
+        finish();
     }
 
     private static void newObject() {
