@@ -533,7 +533,7 @@ public final class ThreeOfThem {
     }
 
     private static boolean has(int bits, int one) {
-        return (bits & bit(one)) != 0;
+        return (bits >>> one & 1) == 1;
     }
 
     private static int clamp(int v, int least, int most) {

@@ -94,12 +94,18 @@ public final class HostEdgesTest extends Checks {
     }
 
     private static void sizes() {
-        says("-14 a size below 0.");
+        says("the host's: -11 nothing where something is asked, -12 a place outside, -13 a thing of another sort "
+            + "or KIND, -14 a size below 0.");
         ThreeOfThem x = new ThreeOfThem();
         row(x, 0, 2, 1, 2, 3);
         due("n -1", x.sheet(0, 0, -1), NEGATIVE);
         due("n MIN", x.sheet(0, 2, MIN), NEGATIVE);
         due("as it was", x.cell(0, 2, 3), 1);
+        due("nothing where something is asked", x.cell(1, 0, 0), MISSING);
+        due("a place outside", x.cell(0, 3, 0), OUTSIDE);
+        due("a thing of another sort", x.likes(0, 0, 0, 0), UNLIKE);
+        x.inmate(0, 0);
+        due("a thing of another KIND", x.taken(0, 1), UNLIKE);
         says("n above 40");
         due("n 41", x.sheet(0, 0, 41), BAD);
         due("n MAX", x.sheet(0, 0, MAX), BAD);
@@ -310,7 +316,7 @@ public final class HostEdgesTest extends Checks {
     }
 
     private static void likesThree() {
-        says("from one on, three by three (as of like())");
+        says("LIKES by a SHEET that is taken for one of a sort: from one on, three by three (as of like())");
         for (int sort = 0; sort < 3; sort++) {
             ThreeOfThem x = plain(7);
             row(x, 0, sort, 8, 6, 0, 9, 0, 6, 1, 5, 6, 0, 0);

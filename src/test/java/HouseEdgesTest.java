@@ -16,8 +16,10 @@ public final class HouseEdgesTest extends Checks {
         quotients();
         setWhats();
         brings();
+        thoseIn();
         wants();
         wantsAtLeast();
+        told();
         toldWhats();
         goodOfOneOut();
         swornWith();
@@ -363,6 +365,28 @@ public final class HouseEdgesTest extends Checks {
         due("a SNORER, 9, of seven", toldOf(5, 9, 7, 3), 4);
     }
 
+    private static void thoseIn() {
+        says("BRINGS (to each other one, n being IN)");
+        ThreeOfThem x = new ThreeOfThem();
+        x.inmate(1, 9);
+        for (int i = 1; i < 7; i++) {
+            x.inmate(0, 0);
+        }
+        for (int n = 6; n >= 1; n--) {
+            x.set(4, n, 0);
+            due("a COOK who is IN, of " + n, x.told(0, 3), 9 + n);
+        }
+        x.set(4, 0, 0);
+        due("a COOK who is OUT, of none", x.told(0, 3), 9);
+        x.set(4, 6, 1);
+        due("a COOK who is OUT, of one", x.told(0, 3), 10);
+        says("WANTS (how much more it must have, to join; n being IN; whether it breaks an oath)");
+        due("a COOK who is OUT, of one", x.told(0, 4), 2);
+        x.set(4, 0, 1);
+        due("a COOK who is IN, of two", x.told(0, 4), 3);
+        due("who breaks an oath", x.told(0, 5), 3);
+    }
+
     private static void wants() {
         says("INMATE: 1; COOK: n more than an INMATE; SHY: NUMBER more than an INMATE;");
         for (int n = 0; n <= 7; n++) {
@@ -390,6 +414,24 @@ public final class HouseEdgesTest extends Checks {
         for (int n = 0; n <= 7; n++) {
             due("a SNORER of " + n, toldOf(5, 9, n, 4), wants[n]);
             due("a SNORER who breaks one, of " + n, toldOf(5, 9, n, 5), wants[n]);
+        }
+    }
+
+    private static void told() {
+        says("Of an INMATE: 0 KIND, 1 NUMBER, 2 whether IN, 3 BRINGS now, 4 WANTS now (no oath broken), 5 WANTS "
+            + "(an oath broken), 6 GOOD (of one OUT: 0), 7 with whom it is sworn (bits).");
+        ThreeOfThem x = plain(2);
+        x.inmate(4, 8);
+        x.swear(2, 0, 1);
+        x.like(2, 1, 9);
+        int[] in = {4, 8, 1, 5, 9, 18, 33 + 5 + 9, 1};
+        int[] out = {4, 8, 0, 5, 9, 18, 0, 1};
+        for (int what = 0; what < 8; what++) {
+            due("IN, told(2," + what + ")", x.told(2, what), in[what]);
+        }
+        x.set(4, 2, 0);
+        for (int what = 0; what < 8; what++) {
+            due("OUT, told(2," + what + ")", x.told(2, what), out[what]);
         }
     }
 

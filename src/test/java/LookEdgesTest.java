@@ -3,6 +3,7 @@ public final class LookEdgesTest extends Checks {
     public static void main(String[] args) {
         badBands();
         bandsOfEachSize();
+        eachOfTheBand();
         wantsOrMore();
         toldByTheSet();
         goodWithout();
@@ -29,6 +30,7 @@ public final class LookEdgesTest extends Checks {
         holds();
         leastRent();
         who();
+        whoWhats();
         whoGoes();
         whoRefused();
         drawnDays();
@@ -72,18 +74,46 @@ public final class LookEdgesTest extends Checks {
         }
     }
 
-    /** Whether a band of four would, for 50 more of rent, whose 0 loses so much company by 3. */
-    private static int for50(int kind, int lost, boolean sworn) {
+    private static void eachOfTheBand() {
+        says("Whether a BAND (bits) WOULD turn out another one (1, 0).");
+        ThreeOfThem x = house(7, 9999, "company 0;oath 0;joins other=3;");
+        for (int band = 0; band < 128; band++) {
+            int answer = Integer.bitCount(band) == 3 && (band & 8) == 0 ? 1 : BAD;
+            due("would(" + band + ",3)", x.would(band, 3), answer);
+        }
+        due("against another one", x.would(7, 4), 0);
+        says("It WOULD turn out another one of the set, if for each of the BAND joins tells it, and");
+        for (int not = 0; not < 4; not++) {
+            ThreeOfThem y = house(4, 9999, "company 0;oath 0;joins one-" + not + ";");
+            for (int other = 0; other < 4; other++) {
+                due(not + " never joins", y.would(15 & ~(1 << other), other), other == not ? 1 : 0);
+            }
+        }
+    }
+
+    /** Whether all others of four turn out the last, or the first, for 50 more; one loses company. */
+    private static int for50(int kind, int one, int other, int lost, boolean sworn) {
         ThreeOfThem x = new ThreeOfThem();
-        x.inmate(kind, 9);
-        for (int i = 0; i < 3; i++) {
-            x.inmate(0, 0);
+        for (int i = 0; i < 4; i++) {
+            x.inmate(i == one ? kind : 0, i == one ? 9 : 0);
         }
         x.set(0, 0, 600);
-        x.swear(0, 3, sworn ? 1 : 0);
-        rule(x, "company (one=0)*(other=3)*" + lost + ";oath 7;joins 1;");
-        due("THE END goes the same way", x.end(15, 0), x.would(7, 3) == 1 ? 7 : 11);
-        return x.would(7, 3);
+        x.swear(one, other, sworn ? 1 : 0);
+        rule(x, "company (one=" + one + ")*(other=" + other + ")*" + lost + ";oath 7;joins other=" + other + ";");
+        int band = 15 & ~(1 << other);
+        int would = x.would(band, other);
+        due("THE END goes the same way", x.end(15, 0), would == 1 ? band : 15);
+        return would;
+    }
+
+    /** Of each place in the band, whether one who has so much more, of which so much is lost, joins. */
+    private static void movesFor50(int kind, int mostLost, boolean sworn) {
+        for (int one = 0; one < 3; one++) {
+            due("as much, KIND " + kind, for50(kind, one, 3, mostLost, sworn), 1);
+            due("1 less, KIND " + kind, for50(kind, one, 3, mostLost + 1, sworn), 0);
+            due("as much, KIND " + kind, for50(kind, one + 1, 0, mostLost, sworn), 1);
+            due("1 less, KIND " + kind, for50(kind, one + 1, 0, mostLost + 1, sworn), 0);
+        }
     }
 
     private static void wantsOrMore() {
@@ -91,13 +121,11 @@ public final class LookEdgesTest extends Checks {
         int[] wants = {1, 5, 10, 0, 10, 0};
         int[] wantsBreaking = {1, 5, 10, 5, 20, 0};
         for (int kind = 0; kind < 6; kind++) {
-            due("as much, KIND " + kind, for50(kind, 50 - wants[kind], false), 1);
-            due("1 less, KIND " + kind, for50(kind, 51 - wants[kind], false), 0);
+            movesFor50(kind, 50 - wants[kind], false);
         }
         says("less oath, if the two are sworn");
         for (int kind = 0; kind < 6; kind++) {
-            due("as much, KIND " + kind, for50(kind, 43 - wantsBreaking[kind], true), 1);
-            due("1 less, KIND " + kind, for50(kind, 44 - wantsBreaking[kind], true), 0);
+            movesFor50(kind, 43 - wantsBreaking[kind], true);
         }
     }
 
@@ -118,16 +146,18 @@ public final class LookEdgesTest extends Checks {
             due("of THE END, oath " + oaths[i], x.end(15, 0), i % 2 == 0 ? 7 : 15);
         }
         // A COOK of four wants 5; of three it would be 4.
-        due("WANTS, for 5", for50(1, 45, false), 1);
-        due("WANTS, for 4", for50(1, 46, false), 0);
+        due("WANTS, for 5", for50(1, 0, 3, 45, false), 1);
+        due("WANTS, for 4", for50(1, 0, 3, 46, false), 0);
     }
 
     private static void goodWithout() {
         says("its GOOD in the set without the other one");
         ThreeOfThem x = house(4, 0, "company 10*(many=3);oath 0;joins 1;");
-        due("company of three", x.would(7, 3), 1);
         ThreeOfThem y = house(4, 0, "company 10*(many=4);oath 0;joins 1;");
-        due("company of four is lost", y.would(7, 3), 0);
+        for (int other = 0; other < 4; other++) {
+            due("company of three", x.would(15 & ~(1 << other), other), 1);
+            due("company of four is lost", y.would(15 & ~(1 << other), other), 0);
+        }
         // By 9 of two SHY ones, who bring it to three, not to four.
         ThreeOfThem z = plain(2);
         z.inmate(2, 9);
@@ -147,7 +177,8 @@ public final class LookEdgesTest extends Checks {
     }
 
     private static void firstOfAll() {
-        says("the first (by BANDS as bits, then the other one)");
+        says("NOW: of all BANDS of those who are IN, and others whom they WOULD turn out, the first (by BANDS as "
+            + "bits, then the other one).");
         ThreeOfThem x = house(5, 9999, "company 0;oath 0;joins other=2 or other=4;");
         due("a lesser band against a higher one", x.now(0) * 10 + x.now(1), 74);
         rule(x, RENT_ALONE);
@@ -244,7 +275,8 @@ public final class LookEdgesTest extends Checks {
     }
 
     private static void goOnWhats() {
-        says("who went as number what less 2 (2 .. 6; NONE). BAD.");
+        says("GOING ON: who is IN (what 0, bits), how many went (1), who went as number what less 2 (2 .. 6; "
+            + "NONE). BAD.");
         ThreeOfThem x = house(7, 9999, "company 0;oath 0;joins other<5;");
         x.set(1, 0, 2);
         int[] none = {MIN, -1, 7, MAX};
@@ -272,7 +304,8 @@ public final class LookEdgesTest extends Checks {
     }
 
     private static void goingOn() {
-        says("the other one of NOW goes OUT, and DAY is 1 more (999 at most).");
+        says("GOING ON, in thought: as long as it isn't AT REST, the other one of NOW goes OUT, and DAY is 1 more "
+            + "(999 at most).");
         ThreeOfThem x = house(7, 9999, "company 0;oath 0;joins 4<days and days<7;");
         x.set(1, 0, 2);
         int[] days = {4, 5, 6, 7};
@@ -323,7 +356,8 @@ public final class LookEdgesTest extends Checks {
     }
 
     private static void foresees() {
-        says("if each of the BAND is of THE END of the set without the other one");
+        says("a BAND of it FORESEES for another one of it, if each of the BAND is of THE END of the set without "
+            + "the other one");
         // 0 and 1 would turn out 3 now; but then 1 and 2 would turn out 0.
         ThreeOfThem x = house(4, 9999, "company 0;oath 0;joins other=3 and one<2 or many=3 and other=0;");
         x.set(1, 0, 2);
@@ -389,6 +423,11 @@ public final class LookEdgesTest extends Checks {
         due("none IN", x.safe(), 0);
         x.set(4, 3, 1);
         due("one alone", x.safe(), 8);
+        says("SAFE (bits).");
+        for (int i = 0; i < 7; i++) {
+            ThreeOfThem y = house(7, 9999, "company 0;oath 0;joins other=" + i + ";");
+            due("all but " + i, y.safe(), 127 & ~(1 << i));
+        }
     }
 
     private static void sworn() {
@@ -572,6 +611,8 @@ public final class LookEdgesTest extends Checks {
         due("not 5", house(4, 5, "company 0;oath 0;joins share=1;").holds(1), NONE);
         due("20 is 5 by four", house(4, 5, "company 0;oath 0;joins share=5;").holds(1), 20);
         due("at rest by any", house(3, 9999, RENT_ALONE).holds(1), NONE);
+        // Of 10 each of four has 2 and three times 2, of three 3 and twice 3.
+        due("company by the share", house(4, 9999, "company share;oath 0;joins share;").holds(1), 10);
         // Of 70 one of three has 23, one of four 17; of 60 20 and 15.
         ThreeOfThem x = plain(4);
         due("5 of company lost, 1 wanted", x.holds(1), 70);
@@ -605,6 +646,17 @@ public final class LookEdgesTest extends Checks {
         whoIs(x, 0, 0, NONE, 2);
         row(x, 0, 0, 1, 5);
         whoIs(x, 0, 10, 13, NONE);
+    }
+
+    private static void whoWhats() {
+        says("WHO: how many (what 0), the first (1; NONE), the first who wouldn't (2; NONE).");
+        ThreeOfThem x = house(4, 9999, RENT_ALONE);
+        row(x, 0, 0, 2);
+        whoIs(x, 0, 1, 11, NONE);
+        row(x, 0, 0, 2, 0);
+        whoIs(x, 0, 0, NONE, 1);
+        x.set(1, 0, 4);
+        whoIs(x, 0, 0, NONE, 0);
     }
 
     private static void whoIs(ThreeOfThem x, int sheet, int many, int first, int place) {
@@ -702,6 +754,17 @@ public final class LookEdgesTest extends Checks {
         return NONE;
     }
 
+    private static void drawnBy(ThreeOfThem x, int in, int needed, int seed) {
+        int z = seed;
+        int left = in;
+        for (int n = 1; n <= 3; n++) {
+            z = z * 1103515245 + 12345;
+            int met = Integer.bitCount(left) > needed ? meeting(z, left, needed + 1) : 0;
+            left &= ~Integer.highestOneBit(met);
+            due(n + " days by " + seed, x.drawn(seed, n), left);
+        }
+    }
+
     private static void drawnNumbers() {
         says("z = z * 1103515245 + 12345 (an int; SEED at first): of all sets of as many as are NEEDED, and one "
             + "more, of those who are IN, by bits, number (z >>> 9) modulo how many there are meets");
@@ -711,19 +774,13 @@ public final class LookEdgesTest extends Checks {
             // Whoever meets, the first band turns out the last of them.
             ThreeOfThem x = house(7, 9999, RENT_ALONE);
             x.set(1, 0, needed);
-            int in = 127;
-            if (needed < 5) {
-                x.set(4, 7 - needed, 0);
-                in &= ~(1 << 7 - needed);
-            }
             for (int seed : seeds) {
-                int z = seed * 1103515245 + 12345;
-                below += z < 0 ? 1 : 0;
-                int first = in & ~Integer.highestOneBit(meeting(z, in, needed + 1));
-                due("a day by " + seed, x.drawn(seed, 1), first);
-                z = z * 1103515245 + 12345;
-                int meet = Integer.bitCount(first) > needed ? meeting(z, first, needed + 1) : 0;
-                due("two days by " + seed, x.drawn(seed, 2), first & ~Integer.highestOneBit(meet));
+                below += seed * 1103515245 + 12345 < 0 ? 1 : 0;
+                drawnBy(x, 127, needed, seed);
+            }
+            x.set(4, 7 - needed, 0);
+            for (int seed : seeds) {
+                drawnBy(x, 127 & ~(1 << 7 - needed), needed, seed);
             }
         }
         due("numbers below 0 were among them", below > 0 ? 1 : 0, 1);

@@ -264,6 +264,8 @@ public final class TextEdgesTest extends Checks {
             fault("company " + all[i].substring(1), 8);
             fault("company " + all[i] + "s", 8);
             fault("company " + all[i].substring(0, all[i].length() - 1), 8);
+            fault("company z" + all[i].substring(1), 8);
+            fault("company " + all[i].substring(0, all[i].length() - 1) + "z", 8);
         }
         says("a WORD that is neither KEY nor NAME");
         fault("company 1 + liking;", 12);
@@ -447,7 +449,7 @@ public final class TextEdgesTest extends Checks {
     }
 
     private static void namesOfASet() {
-        says("some being IN (those who are, or a set that is looked at)");
+        says("Of one and another one, some being IN (those who are, or a set that is looked at)");
         ThreeOfThem x = house(5, 700, "company 0;oath 0;joins many=4 and share=175;");
         due("of five who are IN", x.now(2), 0);
         due("of a set of four", x.end(15, 0), 7);
