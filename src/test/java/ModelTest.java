@@ -10,6 +10,7 @@ import java.util.Random;
 public final class ModelTest {
     private static final int RUNS = 600;
     private static final int CALLS = 512;
+    private static final int LOOKING_RUNS = 150;
 
     private static int wrong = 0;
     private static int moved = 0;
@@ -18,6 +19,9 @@ public final class ModelTest {
     public static void main(String[] args) {
         for (int run = 0; run < RUNS && wrong < 20; run++) {
             new Run(run).go();
+        }
+        for (int run = 0; run < LOOKING_RUNS && wrong < 20; run++) {
+            new Run(RUNS + run).goLooking();
         }
         System.out.println(asked + " answers, " + moved + " of them of houses not at rest; "
             + wrong + " not as due");
@@ -57,6 +61,80 @@ public final class ModelTest {
             while (left > 0) {
                 call();
             }
+        }
+
+        /** Full houses, seldom at rest, of which all that can be looked for is asked. */
+        void goLooking() {
+            int people = 4 + random.nextInt(4);
+            for (int i = 0; i < people; i++) {
+                inmate(random.nextInt(3) == 0 ? 5 : random.nextInt(6), random.nextInt(10));
+            }
+            if (random.nextInt(4) > 0) {
+                writeRule(pick("company like-3*(days<3);oath 10+days;joins not other=one+1;",
+                    "company (like-5)*many;oath like*3-days;joins like<8 or share<20;",
+                    "company like-share*(days=2);oath many*days;joins one+other<9;"));
+            }
+            while (left > 100) {
+                change();
+                look(people);
+            }
+        }
+
+        private void writeRule(String text) {
+            for (int i = 0; i < text.length(); i++) {
+                due("feed(" + (int) text.charAt(i) + ")", x.feed(text.charAt(i)), m.feed(text.charAt(i)));
+            }
+            due("text() of " + text, x.text(), m.text());
+            due("force(1)", x.force(1), m.force(1));
+        }
+
+        private void set(int what, int of, int v) {
+            due("set(" + what + "," + of + "," + v + ")", x.set(what, of, v), m.set(what, of, v));
+        }
+
+        private void change() {
+            set(0, 0, random.nextInt(random.nextInt(3) == 0 ? 3000 : 500));
+            set(1, 0, 2 + random.nextInt(random.nextInt(3) == 0 ? 4 : 2));
+            set(2, 0, random.nextInt(random.nextInt(4) == 0 ? 1000 : 6));
+            set(4, who(), random.nextInt(4) == 0 ? 0 : 1);
+            for (int i = 0; i < 12; i++) {
+                like();
+            }
+            for (int i = 0; i < 3; i++) {
+                int a = who();
+                int b = who();
+                int is = random.nextInt(2);
+                due("swear(" + a + "," + b + "," + is + ")", x.swear(a, b, is), m.swear(a, b, is));
+            }
+        }
+
+        private void look(int people) {
+            moved += m.now(2) > 0 ? 1 : 0;
+            for (int w = 0; w < 3; w++) {
+                due("now(" + w + ")", x.now(w), m.now(w));
+                due("oaths(" + w + ")", x.oaths(w), m.oaths(w));
+            }
+            for (int w = 0; w < 7; w++) {
+                due("goOn(" + w + ")", x.goOn(w), m.goOn(w));
+            }
+            int set = random.nextInt(1 << people);
+            for (int w = 0; w < 2; w++) {
+                due("end(" + m.in + "," + w + ")", x.end(m.in, w), m.end(m.in, w));
+                due("end(" + set + "," + w + ")", x.end(set, w), m.end(set, w));
+                due("holds(" + w + ")", x.holds(w), m.holds(w));
+            }
+            due("safe()", x.safe(), m.safe());
+            for (int a = 0; a < people; a++) {
+                int b = random.nextInt(people);
+                due("told(" + a + ",6)", x.told(a, 6), m.told(a, 6));
+                due("sworn(" + a + ")", x.sworn(a), m.sworn(a));
+                due("shield(" + a + "," + b + ")", x.shield(a, b), m.shield(a, b));
+            }
+            int seed = random.nextInt();
+            int n = random.nextInt(31);
+            due("drawn(" + seed + "," + n + ")", x.drawn(seed, n), m.drawn(seed, n));
+            chance();
+            writeWho();
         }
 
         private void due(String call, long got, long want) {
