@@ -63,7 +63,7 @@ public final class ModelTest {
             }
         }
 
-        /** Full houses, seldom at rest, of which all that can be looked for is asked. */
+        /** Houses of 4 to 7, most of them not at rest, of which all that can be looked for is asked. */
         void goLooking() {
             int people = 4 + random.nextInt(4);
             for (int i = 0; i < people; i++) {
